@@ -739,12 +739,6 @@ public final class MeterTree {
             status = new int[INTERVALS];
         }
 
-        void measureAll(State state) {
-            for (int meter = 0; meter < state.count; meter++) {
-                measure(state, meter);
-            }
-        }
-
         void measureFamily(State state, int meter) {
             measure(state, meter);
             for (int other = meter + 1; other < state.count; other++) {
@@ -920,12 +914,16 @@ public final class MeterTree {
         }
 
         void fill(State state, Energies energies) {
-            energies.measureAll(state);
-            for (int interval = 0; interval < INTERVALS; interval++) {
-                billed[0][interval] = energies.energy[0][interval];
-                // A parent has a lower number than its children, so it is billed before they are.
-                for (int meter = 0; meter < state.count; meter++) {
-                    allocate(state, energies, meter, interval);
+            for (int meter = 0; meter < state.count; meter++) {
+                energies.measure(state, meter);
+            }
+            System.arraycopy(energies.energy[0], 0, billed[0], 0, INTERVALS);
+            // A parent has a lower number than its children, so it is billed before they are.
+            for (int meter = 0; meter < state.count; meter++) {
+                if (state.countChildren(meter) > 0) {
+                    for (int interval = 0; interval < INTERVALS; interval++) {
+                        allocate(state, energies, meter, interval);
+                    }
                 }
             }
         }

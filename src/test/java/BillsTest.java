@@ -6,6 +6,8 @@ public final class BillsTest {
         promises21And22();
         remainders();
         negativeBills();
+        tenMeters();
+        eachCallAlone();
         promise23();
         promise24();
         promise25();
@@ -93,6 +95,52 @@ public final class BillsTest {
         tree.setMeter(3, 100, 100);
         tree.setAll(3, 0, 50000);
         dueBilled("great", tree, 1, 4900990, -4900989, -4900989, 0);
+    }
+
+    /** Ten meters in one line, and nine below one. */
+    private static void tenMeters() {
+        MeterTree line = Checks.tree(0, 0, 1, 2, 3, 4, 5, 6, 7, 8);
+        line.setAll(0, 0, 17);
+        line.setAll(5, 0, 40);
+        dueBilled("a line", line, 17, 17, 17, 17, 17, 17, 17, 17, 17, 17);
+        MeterTree star = Checks.tree(0, 0, 0, 0, 0, 0, 0, 0, 0, 0);
+        star.setAll(0, 0, 17);
+        dueBilled("nine children", star, 17, 2, 2, 2, 2, 2, 2, 2, 2, 1);
+        star.setMeter(9, 1, 2);
+        // 17 by 1 : ... : 1 : 2 is 1.7 for each of the eight, and 3.4: six ones are left.
+        dueBilled("nine children", star, 17, 2, 2, 2, 2, 2, 2, 1, 1, 3);
+        star.setMeter(9, 1, 1);
+        for (int meter = 1; meter < 10; meter++) {
+            star.setRegister(meter, 6, 50000);
+            star.setMeter(meter, 100, 100);
+            star.setAll(meter, 0, 50000);
+        }
+        // 44999983 to be taken from nine is 4999998, 1/9.
+        dueBilled("nine great children", star, 17, 1, 2, 2, 2, 2, 2, 2, 2, 2);
+        Checks.due("day of nine great children", star.day(9, 2), 24);
+    }
+
+    /** Each call finds its own answer, without another one before it. */
+    private static void eachCallAlone() {
+        int[] answers = {67, 12, 804, Float.floatToIntBits(0.67f), 670, 804, 240};
+        for (int which = 0; which < answers.length; which++) {
+            MeterTree tree = Checks.tree(0, 0, 0, 1);
+            tree.setAll(0, 99990, 100);
+            tree.setAll(1, 0, 60);
+            tree.setAll(2, 500, 30);
+            tree.setAll(3, 0, 55);
+            int answer;
+            switch (which) {
+                case 0 -> answer = tree.billed(3, 0);
+                case 1 -> answer = tree.part(3, 0);
+                case 2 -> answer = tree.day(3, 2);
+                case 3 -> answer = tree.shareBits(3);
+                case 4 -> answer = tree.share(3);
+                case 5 -> answer = tree.revise() + tree.billOf(0, 3);
+                default -> answer = tree.imbalanceWith(0, 1, 3) - tree.imbalance(1);
+            }
+            Checks.due("call " + which + " alone", answer, answers[which]);
+        }
     }
 
     private static void dueShare(String name, MeterTree tree, int meter, int bill, int main) {

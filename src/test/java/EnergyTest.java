@@ -72,6 +72,12 @@ public final class EnergyTest {
         Checks.readings(tree, 0, 0, 30, 40, 90, 94, 98, 102, 106, 110, 114, 118, 122, 199);
         dueRow("too much", tree, 0, new int[] {10, 10, 7, 4, 4, 4, 4, 4, 4, 4, 4, 4},
             new int[] {3, 0, 2, 0, 0, 0, 0, 0, 0, 0, 0, 3});
+        Checks.readings(tree, 0, -1, -1, -1, -1, -1, -1, -1, -1, -1, -1, -1, 5, 12);
+        dueRow("only the last", tree, 0, new int[] {7, 7, 7, 7, 7, 7, 7, 7, 7, 7, 7, 7},
+            new int[] {3, 3, 3, 3, 3, 3, 3, 3, 3, 3, 3, 0});
+        Checks.readings(tree, 0, 5, 12, -1, -1, -1, -1, -1, -1, -1, -1, -1, -1, -1);
+        dueRow("only the first", tree, 0, new int[] {7, 7, 7, 7, 7, 7, 7, 7, 7, 7, 7, 7},
+            new int[] {0, 3, 3, 3, 3, 3, 3, 3, 3, 3, 3, 3});
         tree.setAll(0, 0, 30);
         dueRow("all too much", tree, 0, new int[12], new int[] {4, 4, 4, 4, 4, 4, 4, 4, 4, 4, 4, 4});
         tree.setRegister(0, 6, 50000);

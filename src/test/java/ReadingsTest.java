@@ -56,6 +56,8 @@ public final class ReadingsTest {
         for (int boundary = 0; boundary <= 12; boundary++) {
             Checks.due("each reading", tree.reading(1, boundary), 99999 - boundary);
         }
+        Checks.due("setAll that meets 0", tree.setAll(1, 99990, 10), 110);
+        Checks.due("meets 0", tree.reading(1, 1), 0);
         Checks.due("setAll(0, 0, 0)", tree.setAll(0, 0, 0), 0);
         long before = tree.digest();
         Checks.due("start -1", tree.setAll(1, -1, 0), Checks.BAD_VALUE);
@@ -177,8 +179,12 @@ public final class ReadingsTest {
         Checks.due("too much comes first", middle(5, 1, 1001, 1), 2);
         Checks.due("neighbour too much", middle(5, 1001, 800, 1), 0);
         Checks.due("other neighbour too much", middle(5, 1, 800, 1001), 0);
-        Checks.due("neighbour missing", middle(5, 1, 800, -1), 0);
+        Checks.due("neighbour behind missing", middle(5, 1, 800, -1), 0);
         MeterTree tree = Checks.tree(0);
+        Checks.readings(tree, 0, -1, -1, -1, 100, 900, 901, 902);
+        Checks.due("neighbour before missing", tree.status(0, 3), 0);
+        tree.setReading(0, 2, 99);
+        Checks.due("neighbour before there", tree.status(0, 3), 3);
         tree.setAll(0, 0, 0);
         Checks.readings(tree, 0, 0, 500, 501, 502, 503, 504, 505, 506, 507, 508, 509, 510, 999);
         Checks.due("no spike at the start", tree.status(0, 0), 0);

@@ -7,6 +7,8 @@ public final class RevisionsTest {
         promise31();
         promise32();
         promise33();
+        undoOfEachCall();
+        undoOfRevisions();
         whatIsRecorded();
         Checks.end("RevisionsTest");
     }
@@ -136,6 +138,92 @@ public final class RevisionsTest {
         tree.type('0');
         Checks.due("undo", tree.undo(), 1);
         Checks.due("the text stays", tree.clearText(), 1);
+    }
+
+    /** Each recorded call is taken back wholly, whatever it changed. */
+    private static void undoOfEachCall() {
+        MeterTree tree = Checks.tree(0, 0, 1);
+        for (int meter = 0; meter < 3; meter++) {
+            tree.setMeter(meter, 3 + meter, 7 + meter);
+            tree.setRegister(meter, 4 + meter % 2, 100 + meter);
+            tree.setAll(meter, 10 + meter, 20 + meter);
+        }
+        tree.setRules(7, 70);
+        Checks.text(tree, "0@3=9;2@4=-");
+        for (int revision = 0; revision <= 8; revision++) {
+            for (int which = 0; which < 10; which++) {
+                long before = tree.digest();
+                int bill = tree.billOf(0, 1);
+                int depth = tree.meter(2, 6);
+                recorded(tree, which);
+                Checks.due("call " + which + " changes something", tree.digest() != before || revision == 8 || which == 8 ? 1 : 0, 1);
+                boolean full = which == 7 && revision == 8;
+                if (!full) {
+                    Checks.due("undo of call " + which, tree.undo() >= 0 ? 1 : 0, 1);
+                }
+                Checks.due("undone call " + which, tree.digest(), before);
+                Checks.due("bill, undone call " + which, tree.billOf(0, 1), bill);
+                Checks.due("depth, undone call " + which, tree.meter(2, 6), depth);
+            }
+            tree.revise();
+        }
+    }
+
+    private static void recorded(MeterTree tree, int which) {
+        switch (which) {
+            case 0 -> tree.addMeter(2);
+            case 1 -> tree.setMeter(1, 99, 98);
+            case 2 -> tree.setRegister(1, 6, 9);
+            case 3 -> tree.setRules(8, 80);
+            case 4 -> tree.setReading(2, 12, 1);
+            case 5 -> tree.setAll(1, 1, 1);
+            case 6 -> tree.removeReading(0, 7);
+            case 7 -> tree.revise();
+            case 8 -> tree.clearRevisions();
+            default -> tree.load();
+        }
+    }
+
+    /** The bills of revisions come back also where later ones stood in their place; a parent too. */
+    private static void undoOfRevisions() {
+        MeterTree tree = Checks.tree(0, 0);
+        tree.setAll(0, 0, 1);
+        tree.revise();
+        tree.clearRevisions();
+        tree.setAll(0, 0, 2);
+        tree.revise();
+        Checks.due("bill", tree.billOf(0, 1), 24);
+        for (int call = 0; call < 3; call++) {
+            tree.undo();
+        }
+        Checks.due("bill of the one before", tree.billOf(0, 1), 12);
+        tree = Checks.tree(0, 0);
+        tree.addMeter(1);
+        tree.undo();
+        tree.addMeter(0);
+        Checks.due("another parent", tree.meter(2, 0), 0);
+        tree.setMeter(2, 5, 6);
+        tree.setRegister(2, 5, 7);
+        tree.undo();
+        Checks.due("limit is back", tree.meter(2, 3), 10000);
+        tree.undo();
+        Checks.due("multiplier is back", tree.meter(2, 1), 1);
+        Checks.due("weight is back", tree.meter(2, 4), 1);
+        tree.undo();
+        tree.undo();
+        Checks.due("one meter", tree.meters(), 1);
+        // The history holds the last two meters and three calls that change nothing of them.
+        tree = Checks.tree(0, 0, 1, 2, 3);
+        for (int call = 0; call < 3; call++) {
+            tree.setRules(2, 2);
+        }
+        for (int call = 0; call < 5; call++) {
+            tree.undo();
+        }
+        Checks.due("three meters", tree.meters(), 3);
+        tree.addMeter(0);
+        tree.addMeter(0);
+        Checks.due("parents anew", tree.meter(4, 0), 0);
     }
 
     /** Each call that is not said to be recorded leaves the history as it is. */
