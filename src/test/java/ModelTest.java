@@ -1,9 +1,9 @@
 import java.util.Random;
 
-/** Runs of 512 calls, drawn from fixed seeds, on the class and on the model: all answers are the same. */
+/** Long runs of calls, drawn from fixed seeds, on the class and on the model: all answers are the same. */
 public final class ModelTest {
     private static final int RUNS = 240;
-    private static final int CALLS = 512;
+    private static final int STEPS = 512;
 
     private final Random random;
     private final MeterTree tree = new MeterTree();
@@ -31,7 +31,7 @@ public final class ModelTest {
             int parent = random.nextInt(Math.max(1, meter));
             due("addMeter", tree.addMeter(parent), model.addMeter(parent));
         }
-        for (int call = first; call < CALLS; call += 2) {
+        for (int step = first; step < STEPS; step += 2) {
             switch (random.nextInt(4)) {
                 case 0 -> settle();
                 case 1 -> read();
@@ -46,9 +46,11 @@ public final class ModelTest {
         Checks.due(run + call, got, want);
     }
 
-    /** Mostly 0 to bound - 1, at times something beside it. */
+    /** Mostly 0 to bound - 1, its ends more often, at times something beside it. */
     private int pick(int bound) {
         int chance = random.nextInt(40);
+        if (chance == 3) return 0;
+        if (chance == 4) return Math.max(0, bound - 1);
         if (chance == 0) return -1;
         if (chance == 1) return bound;
         if (chance == 2) return random.nextBoolean() ? random.nextInt() : Integer.MIN_VALUE;
@@ -87,7 +89,12 @@ public final class ModelTest {
             case 7 -> {
                 if (random.nextInt(6) == 0) due("clearRevisions()", tree.clearRevisions(), model.clearRevisions());
             }
-            case 8 -> due("undo()", tree.undo(), model.undo());
+            case 8 -> {
+                for (int left = random.nextInt(3) == 0 ? 6 : 1; left > 0; left--) {
+                    due("undo()", tree.undo(), model.undo());
+                    due("digest()", tree.digest(), model.digest());
+                }
+            }
             case 9, 10 -> text();
             default -> {
                 int what = pick(7);
@@ -101,7 +108,8 @@ public final class ModelTest {
     private void read() {
         int meter = meter();
         int boundary = pick(13);
-        switch (random.nextInt(8)) {
+        switch (random.nextInt(9)) {
+            case 8 -> spike(meter, boundary);
             case 0, 1 -> {
                 int start = value(meter);
                 int step = size == 3 ? 50000 - pick(9) : size == 2 ? pick(3000) : pick(size == 0 ? 20 : 300);
@@ -124,6 +132,22 @@ public final class ModelTest {
         }
     }
 
+    /** Four readings whose middle interval is about as great as a spike must be. */
+    private void spike(int meter, int boundary) {
+        int digits = model.meter(meter, 2);
+        int modulus = digits < 0 ? 1000 : (int) Math.pow(10, digits);
+        int side = random.nextInt(random.nextBoolean() ? 4 : 120);
+        int middle = side * (random.nextBoolean() ? 5 : 2 + random.nextInt(19)) + random.nextInt(3) - 1;
+        int[] steps = {0, side, random.nextInt(4) == 0 ? 9 + random.nextInt(3) : middle, random.nextInt(side + 1)};
+        int value = value(meter);
+        for (int step = 0; step < 4; step++) {
+            value = Math.floorMod(value + steps[step], modulus);
+            int at = boundary + step;
+            due("setReading(" + meter + ", " + at + ", " + value + ")", tree.setReading(meter, at, value), model.setReading(meter, at, value));
+        }
+        due("status", tree.status(meter, boundary + 1), model.status(meter, boundary + 1));
+    }
+
     private void ask() {
         int meter = meter();
         int interval = pick(12);
@@ -135,7 +159,10 @@ public final class ModelTest {
             case 3 -> due("quality" + with, tree.quality(meter, interval), model.quality(meter, interval));
             case 4 -> due("loss" + with, tree.loss(meter, interval), model.loss(meter, interval));
             case 5 -> due("balance" + with, tree.balance(meter, interval), model.balance(meter, interval));
-            case 6 -> due("nextFault" + with, tree.nextFault(meter, interval - 1), model.nextFault(meter, interval - 1));
+            case 6 -> {
+                int behind = pick(13) - 1;
+                due("nextFault(" + meter + ", " + behind + ")", tree.nextFault(meter, behind), model.nextFault(meter, behind));
+            }
             default -> everyInterval(meter);
         }
     }
@@ -156,7 +183,7 @@ public final class ModelTest {
         int factor = pick(8);
         int from = pick(model.revisions());
         int to = pick(model.revisions());
-        switch (random.nextInt(9)) {
+        switch (random.nextInt(10)) {
             case 0 -> due("billed", tree.billed(meter, interval), model.billed(meter, interval));
             case 1 -> due("part", tree.part(meter, interval), model.part(meter, interval));
             case 2 -> due("day(" + meter + ", " + index + ")", tree.day(meter, index), model.day(meter, index));
@@ -165,13 +192,11 @@ public final class ModelTest {
                 due("shareBits(" + meter + ")", tree.shareBits(meter), model.shareBits(meter));
                 due("share(" + meter + ")", tree.share(meter), model.share(meter));
             }
-            case 5 -> {
-                due("imbalance(" + meter + ")", tree.imbalance(meter), model.imbalance(meter));
-                due("suspect(" + meter + ")", tree.suspect(meter), model.suspect(meter));
-            }
-            case 6 -> due("imbalanceWith(" + meter + ", " + index + ", " + factor + ")",
+            case 5 -> due("imbalance(" + meter + ")", tree.imbalance(meter), model.imbalance(meter));
+            case 6 -> due("suspect(" + meter + ")", tree.suspect(meter), model.suspect(meter));
+            case 7 -> due("imbalanceWith(" + meter + ", " + index + ", " + factor + ")",
                 tree.imbalanceWith(meter, index, factor), model.imbalanceWith(meter, index, factor));
-            case 7 -> due("billOf(" + from + ", " + meter + ")", tree.billOf(from, meter), model.billOf(from, meter));
+            case 8 -> due("billOf(" + from + ", " + meter + ")", tree.billOf(from, meter), model.billOf(from, meter));
             default -> {
                 due("changed(" + from + ", " + to + ", " + meter + ")", tree.changed(from, to, meter), model.changed(from, to, meter));
                 due("revisions()", tree.revisions(), model.revisions());
