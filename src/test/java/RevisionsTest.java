@@ -142,15 +142,8 @@ public final class RevisionsTest {
 
     /** Each recorded call is taken back wholly, whatever it changed. */
     private static void undoOfEachCall() {
-        MeterTree tree = Checks.tree(0, 0, 1);
-        for (int meter = 0; meter < 3; meter++) {
-            tree.setMeter(meter, 3 + meter, 7 + meter);
-            tree.setRegister(meter, 4 + meter % 2, 100 + meter);
-            tree.setAll(meter, 10 + meter, 20 + meter);
-        }
-        tree.setRules(7, 70);
-        Checks.text(tree, "0@3=9;2@4=-");
         for (int revision = 0; revision <= 8; revision++) {
+            MeterTree tree = furnished(revision);
             for (int which = 0; which < 10; which++) {
                 long before = tree.digest();
                 int bill = tree.billOf(0, 1);
@@ -165,8 +158,22 @@ public final class RevisionsTest {
                 Checks.due("bill, undone call " + which, tree.billOf(0, 1), bill);
                 Checks.due("depth, undone call " + which, tree.meter(2, 6), depth);
             }
+        }
+    }
+
+    private static MeterTree furnished(int revisions) {
+        MeterTree tree = Checks.tree(0, 0, 1);
+        for (int meter = 0; meter < 3; meter++) {
+            tree.setMeter(meter, 3 + meter, 7 + meter);
+            tree.setRegister(meter, 4 + meter % 2, 100 + meter);
+            tree.setAll(meter, 10 + meter, 20 + meter);
+        }
+        tree.setRules(7, 70);
+        Checks.text(tree, "0@3=9;2@4=-");
+        for (int revision = 0; revision < revisions; revision++) {
             tree.revise();
         }
+        return tree;
     }
 
     private static void recorded(MeterTree tree, int which) {

@@ -50,9 +50,14 @@ public final class TextTest {
         Checks.due("the text stays", tree.clearText(), text.length());
     }
 
-    private static void promise36() {
+    private static MeterTree twoRegisters() {
         MeterTree tree = Checks.tree(0, 0);
         tree.setRegister(1, 3, 5);
+        return tree;
+    }
+
+    private static void promise36() {
+        MeterTree tree = twoRegisters();
         dueFault(tree, "0@0=0", Checks.NONE);
         dueFault(tree, "1@12=999;0@0=-", Checks.NONE);
         dueFault(tree, "000001@000012=000999", Checks.NONE);
@@ -73,6 +78,7 @@ public final class TextTest {
         dueFault(tree, "0@0=99999", Checks.NONE);
         dueFault(tree, "1@0=1000", 4);
         dueFault(tree, "0@0=1;1@0=1000", 10);
+        tree = twoRegisters();
         dueFault(tree, "0000000@0=0", 0);
         dueFault(tree, "0000000", 0);
         dueFault(tree, "0@0000000=0", 2);
@@ -92,6 +98,7 @@ public final class TextTest {
         dueFault(tree, "0@0=1,", 5);
         dueFault(tree, "0@0=1;;", 6);
         dueFault(tree, ";0@0=1", 0);
+        tree = twoRegisters();
         dueFault(new MeterTree(), "0@0=0", 0);
         dueFault(new MeterTree(), "x", 0);
         dueFault(new MeterTree(), "", 0);
@@ -128,7 +135,6 @@ public final class TextTest {
 
     /** Each byte at the place of each sign. */
     private static void promise36Bytes() {
-        MeterTree tree = Checks.tree(0);
         String text = "0@1=2;";
         for (int at = 0; at <= 5; at++) {
             for (int code = 0; code < 256; code++) {
@@ -136,6 +142,7 @@ public final class TextTest {
                 boolean fits = code == ' ' || code == text.charAt(at);
                 fits |= digit && at != 0 && at != 1 || digit && at == 1 && code == '0';
                 fits |= at == 4 && code == '-';
+                MeterTree tree = Checks.tree(0);
                 Checks.text(tree, text.substring(0, at));
                 tree.type(code);
                 int fault = tree.textFault();
