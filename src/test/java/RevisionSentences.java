@@ -115,8 +115,9 @@ final class RevisionSentences {
         tree = tenWithBills();
         long before = tree.digest();
         tree.clearRevisions();
-        tree.setAll(9, 9, 9);
+        tree.setAll(0, 9, 9);
         tree.revise();
+        Sentence.due("the other bill of meter 9", tree.billOf(0, 9), 108);
         for (int call = 0; call < 3; call++) {
             tree.undo();
         }
